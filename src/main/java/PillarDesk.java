@@ -99,14 +99,10 @@ public final class PillarDesk {
             return TEXT_FAULT - lastFault;
         }
         plan.copyFrom(draft);
-        begin();
-        return plan.lines;
-    }
-
-    private void begin() {
         past.clear();
         dates.lay();
         stale = true;
+        return plan.lines;
     }
 
     public int fault(int what) {
@@ -681,7 +677,9 @@ public final class PillarDesk {
             return NOT_NOW;
         }
         plan.copyFrom(images[i]);
-        begin();
+        past.clear();
+        dates.lay();
+        stale = true;
         return 0;
     }
 
@@ -1649,32 +1647,18 @@ public final class PillarDesk {
             return sum <= limit;
         }
 
-        /** What holds for f holds for all below it: strides from the guess double till they pass the greatest. */
+        /** What holds for f holds for all below it, so strides from the guess, doubled, soon enclose the greatest. */
         private long greatestFrom(long guess) {
             long low = guess;
-            long high = guess;
-            if (holds(guess)) {
-                high = UNIT + 1;
-                for (long stride = 1; stride <= UNIT && low + stride <= UNIT; stride += stride) {
-                    if (!holds(low + stride)) {
-                        high = low + stride;
-                        break;
-                    }
-                    low += stride;
-                }
-            } else {
-                for (long stride = 1; stride <= 2 * UNIT && low > 0; stride += stride) {
-                    low = Math.max(0, low - stride);
-                    if (holds(low)) {
-                        break;
-                    }
-                    high = low;
-                }
+            long high = guess + 1;
+            for (long stride = 1; stride <= 2 * UNIT && low > 0 && !holds(low); stride += stride) {
+                high = low;
+                low = Math.max(0, low - stride);
             }
-            return greatestWithin(low, high);
-        }
-
-        private long greatestWithin(long low, long high) {
+            for (long stride = 1; stride <= 2 * UNIT && high <= UNIT && holds(high); stride += stride) {
+                low = high;
+                high = Math.min(UNIT + 1, high + stride);
+            }
             for (int k = 0; k < 40 && low + 1 < high; k++) {
                 long middle = (low + high) / 2;
                 if (holds(middle)) {
