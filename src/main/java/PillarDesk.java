@@ -49,8 +49,7 @@ public final class PillarDesk {
     private final Past past = new Past();
     private final Stand before = new Stand();
     private final Stand tried = new Stand();
-    private final Calendar calendar = new Calendar(plan);
-    private final Schedule dates = new Schedule(plan, calendar);
+    private final Schedule dates = new Schedule(plan);
     private final Curve now = new Curve(plan, dates);
     private final Curve trial = new Curve(plan, dates);
     private final Hedge hedge = new Hedge(plan, dates, now);
@@ -144,11 +143,11 @@ public final class PillarDesk {
         if (d < 0 || d > DAY_MOST) {
             return BAD_NUMBER;
         }
-        return calendar.isOpen(d) ? 1 : 0;
+        return dates.calendar.isOpen(d) ? 1 : 0;
     }
 
     public int off(int d) {
-        return d < 0 || d > DAY_MOST ? BAD_NUMBER : calendar.putOff(d);
+        return d < 0 || d > DAY_MOST ? BAD_NUMBER : dates.calendar.putOff(d);
     }
 
     public int opens(int a, int b) {
@@ -157,7 +156,7 @@ public final class PillarDesk {
         }
         int found = 0;
         for (int d = a; d < b; d++) {
-            if (calendar.isOpen(d)) {
+            if (dates.calendar.isOpen(d)) {
                 found++;
             }
         }
@@ -170,7 +169,7 @@ public final class PillarDesk {
         }
         int found = 0;
         for (int more = 1; more <= 999; more++) {
-            if (calendar.isOpen(d + more)) {
+            if (dates.calendar.isOpen(d + more)) {
                 found++;
             }
             if (found == n) {
@@ -1436,9 +1435,9 @@ public final class PillarDesk {
         final int[] pillarDays = new int[PILLARS_MOST];
         final int[] pillarInputs = new int[PILLARS_MOST];
 
-        Schedule(Plan plan, Calendar calendar) {
+        Schedule(Plan plan) {
             this.plan = plan;
-            this.calendar = calendar;
+            calendar = new Calendar(plan);
         }
 
         void lay() {

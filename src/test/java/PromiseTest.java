@@ -164,6 +164,20 @@ public final class PromiseTest {
         fault("desk first 0 curve 0 shift 0;\u0000", 1, 29);
         fault("desk first 0000 curve 0 shift 0;", 1, 11);
         fault("deskfirst 0 curve 0 shift 0;", 2, 0);
+        fault("desk first 0 curve 0 shift 0;zz 5;", 2, 29);
+        due("3: holiday 0", Kit.tell(new PillarDesk(), Kit.HEAD + "holiday 0;holiday 999;flow 0 plus 0;"), 4);
+        String all = Kit.HEAD + "holiday 3;deposit 4 rate 5;forward 4 9 rate 5;swap 40 every 30 rate 5;flow 1 plus 1;flow 1 minus 1;"
+                + "rates:if not told=days and kind=shift or input=1 then 2 else 3 end;opens:week=holiday or date=3;";
+        due("3: all of it", Kit.tell(new PillarDesk(), all), 9);
+        for (int at = 0; at < all.length(); at++) {
+            if (Character.isLetter(all.charAt(at))) {
+                int first = at;
+                while (first > 0 && Character.isLetter(all.charAt(first - 1))) {
+                    first--;
+                }
+                fault(all.substring(0, at) + "x" + all.substring(at + 1), 2, first);
+            }
+        }
         due("3: twelve, eight, ten", Kit.tell(new PillarDesk(), Kit.HEAD + "holiday 1;".repeat(12) + "deposit 1 rate 0;".repeat(8)
                 + "flow 1 plus 1;".repeat(10)), 31);
         due("3: six deep", Kit.tell(new PillarDesk(), Kit.HEAD + "rates:((((((1))))))+((((((1))))));opens:not[not[not[1=1]]];"), 3);
@@ -192,6 +206,15 @@ public final class PromiseTest {
         due("rates: [ ]", counting("if [1 = 1 or 1 = 1] and 1 = 2 then 5 else 6 end"), 6);
         due("rates: not, one unit", counting("if not 1 = 1 or 2 < 3 then 5 else 6 end"), 5);
         due("rates: not not", counting("if not not 1 = 1 then 5 else 6 end"), 5);
+        due("rates: <", counting("if 7 < told then 5 else 6 end"), 6);
+        due("rates: <", counting("if 6 < told then 5 else 6 end"), 5);
+        due("rates: >", counting("if told > 6 then 5 else 6 end"), 5);
+        due("rates: not", counting("if not told = 7 then 5 else 6 end"), 6);
+        due("rates: and", counting("if told = 7 and kind = 1 then 5 else 6 end"), 5);
+        due("rates: and, first", counting("if told = 8 and kind = 1 then 5 else 6 end"), 6);
+        due("rates: and, second", counting("if told = 7 and kind = 2 then 5 else 6 end"), 6);
+        due("rates: or", counting("if told = 8 or kind = 2 then 5 else 6 end"), 6);
+        due("rates: or, second", counting("if told = 8 or kind = 1 then 5 else 6 end"), 5);
         due("rates: later ones strike", counting("5;rates : 8"), 8);
         PillarDesk x = Kit.lines("holiday 3", "opens : 1 = 2", "opens : holiday = 1 or date = 12 or week = 6");
         due("opens: holiday", x.open(3), 1);
@@ -262,7 +285,8 @@ public final class PromiseTest {
         due("8: and not", far.off(9998), 9998);
         PillarDesk plain = new PillarDesk();
         due("9: all", plain.opens(0, 999), 715);
-        due("9: b aside", plain.opens(0, 5), 5);
+        due("9: b aside", plain.opens(0, 4), 4);
+        due("9: a week", plain.opens(0, 7), 5);
         due("9: a too", plain.opens(4, 6), 1);
         due("9: none", plain.opens(999, 999), 0);
         due("9: b below a", plain.opens(3, 2), -3);
@@ -292,6 +316,9 @@ public final class PromiseTest {
         due("11: not 35", x.period(1, 34), -1);
         due("11: above 0", x.period(2, 0), 30);
         due("11: no third", x.period(2, 2), -1);
+        PillarDesk stub = Kit.lines("swap 61 every 30 rate 1", "opens : 1 = 1");
+        due("11: a stub of one day", stub.period(0, 0), 1);
+        due("11: and on", stub.period(0, 2), 61);
         due("11: one alone", x.period(3, 0), 30);
         due("11: none else", x.period(3, 1), -1);
         due("11: k", x.period(0, -1), -3);
@@ -356,6 +383,11 @@ public final class PromiseTest {
         }
         due("15: ten at most", x.count(7), 10);
         due("15: eleven", x.undo(11), -3);
+        due("15: ten", x.undo(10), 0);
+        due("15: eldest are forgotten", x.input(0, 5), 102);
+        for (int k = 1; k <= 10; k++) {
+            x.bump(0, 1);
+        }
         due("15: three", x.undo(3), 7);
         x.bump(0, 50);
         due("15: one more", x.count(7), 8);
@@ -496,6 +528,8 @@ public final class PromiseTest {
         due("20: swap at no rate", Kit.lines(DEPOSIT, "swap 364 every 182 rate 0").pillar(2, 1), UNIT);
         due("20: forward from day 0", Kit.lines("forward 0 91 rate 400").pillar(1, 1), F91);
         due("20: a swap of one period", Kit.lines("swap 91 every 999 rate 400").pillar(1, 1), ((UNIT + 1) * BASE - 1) / (BASE + 400 * 91));
+        due("20: a swap's pay is rounded down", Kit.lines("swap 720 every 999 rate 500", "opens : 1 = 1").pillar(1, 1), 909_090_909);
+        due("20: a deposit just met", Kit.lines("deposit 960 rate 90", "opens : 1 = 1").pillar(1, 1), UNIT * BASE / (BASE + 86400));
         PillarDesk most = Kit.lines("swap 999 every 30 rate 999");
         due("20: met by the swap", swapCost(most, 999) <= UNIT ? 1 : 0, 1);
     }
@@ -577,6 +611,8 @@ public final class PromiseTest {
         due("25: behind", x.falls(0, 200), x.factor(200) - bumped * BASE / (BASE + 300 * 91));
         due("25: not ahead", x.falls(1, 91), 0);
         due("25: unmet", x.falls(2, 182), 0);
+        due("25: day 0", x.falls(0, 0), 0);
+        due("25: the last day", x.falls(1, 9999), x.falls(1, 182));
         due("25: no such", x.falls(3, 5), -2);
         due("25: no such, ahead of the day", x.falls(-1, -1), -2);
         due("25: d", x.falls(0, -1), -3);
@@ -589,6 +625,10 @@ public final class PromiseTest {
         PillarDesk most = Kit.lines("deposit 91 rate 999");
         due("25: 999 at most", most.falls(0, 91), 0);
         due("26: 999 at most", most.moves(0), 0);
+        PillarDesk faint = Kit.lines("deposit 2 rate 0", "swap 32 every 30 rate 999", "opens : 1 = 1");
+        due("26: one bump is too faint for the swap", faint.moves(0), 2);
+        faint.bump(0, 1);
+        due("26: the next one isn't", faint.moves(0), 6);
     }
 
     // ---- 27 to 31
@@ -616,6 +656,7 @@ public final class PromiseTest {
         due("30: the first of alike ones", Kit.lines("deposit 7 rate 1", "deposit 14 rate 1").mover(), 0);
         due("30: the sign aside", Kit.lines("deposit 91 rate 1", "deposit 182 rate 1", "flow 182 plus 1").mover(), 1);
         due("30: the sign aside", Kit.lines("deposit 91 rate 1", "deposit 182 rate 1", "flow 182 minus 1").mover(), 1);
+        due("30: by one bump each", Kit.lines("deposit 91 rate 998", "deposit 182 rate 0", "flow 91 plus 3", "flow 182 plus 1").mover(), 0);
         due("30: the greatest", Kit.lines("deposit 91 rate 1", "deposit 182 rate 1", "flow 182 minus 1", "flow 91 plus 99").mover(), 0);
     }
 
@@ -637,12 +678,18 @@ public final class PromiseTest {
         due("31: worth is 0", x.breaks(0), -1);
         due("31: no such", x.breaks(1), -2);
         due("31: no such", x.breaks(-1), -2);
-        PillarDesk zero = Kit.lines("deposit 900 rate 0", "flow 900 plus 4", "flow 0 minus 3", "rates : if told = 0 then 400 else 401 end");
-        long at = 400;
-        while (4 * (UNIT * BASE / (BASE + at * 901)) - 3 * UNIT > 0 && at < 999) {
-            at++;
-        }
-        due("31: 999 at most", zero.breaks(0), 4 * (UNIT * BASE / (BASE + at * 901)) - 3 * UNIT > 0 ? -1 : at - 400);
+        PillarDesk last = Kit.lines("deposit 900 rate 0", "flow 900 plus 781", "flow 0 minus 625", "opens : 1 = 1");
+        due("31: at the greatest rate", last.breaks(0), 999);
+        PillarDesk next = Kit.lines("deposit 900 rate 998", "flow 900 plus 781", "flow 0 minus 625", "opens : 1 = 1");
+        due("31: by one", next.breaks(0), 1);
+        PillarDesk none = Kit.lines("deposit 900 rate 998", "flow 900 plus 782", "flow 0 minus 625", "opens : 1 = 1");
+        due("31: 999 at most", none.breaks(0), -1);
+        PillarDesk zero = Kit.lines("deposit 800 rate 0", "flow 800 minus 10", "flow 0 plus 9", "opens : 1 = 1");
+        due("31: 0, from below", zero.breaks(0), 500);
+        due("31: 0", zero.bumped(0, 500), 0);
+        zero.amount(0, 10);
+        zero.amount(1, -9);
+        due("31: 0, from above", zero.breaks(0), 500);
         PillarDesk exact = Kit.lines("deposit 720 rate 0", "flow 722 plus 6", "flow 0 minus 5", "opens : 1 = 1");
         due("31: 6 / (1 + n * 720 / BASE) = 5 at n = 1000, not met", exact.breaks(0), -1);
         PillarDesk met = Kit.lines("deposit 900 rate 0", "flow 900 plus 6", "flow 0 minus 5", "opens : 1 = 1");
@@ -751,6 +798,14 @@ public final class PromiseTest {
         Kit.tray(parts, 0, 91 * 100_000_000L + UNIT * BASE / (BASE + 300 * 91) / 100);
         due("35: by a law", parts.shifts(0), 0b1111110000);
         due("36: of these", parts.ask(0), 7);
+        PillarDesk halves = Kit.lines("deposit 7 rate 400", "deposit 91 rate 400",
+                "rates : if input = 0 then if shift > 5 then 9 else 0 end else if shift > 4 then 300 else 0 end end");
+        Kit.tray(halves, 0, 10_000_000L);
+        due("36: six of ten, five of ten", halves.ask(0), 91);
+        Kit.tray(x, 0, 10_000_000L, 10_000_000L, 10_000_000L, 10_000_000L, 10_000_000L, 10_000_000L, 10_000_000L, 10_000_000L);
+        due("35: eight numbers", x.shifts(0), 1023);
+        Kit.tray(x, 0, 0);
+        due("35: a 0 can be told", x.shifts(0), 0);
     }
 
     // ---- 37, 38
@@ -794,6 +849,12 @@ public final class PromiseTest {
         due("37: n", x.chance(0, 0, 4, 0), -3);
         due("37: n", x.chance(0, 0, -1, 0), -3);
         due("37: bounds", x.chance(99, -1_000_000, 3, 0), 0);
+        due("37: bounds", x.chance(-99, 1_000_000, 3, 0), 1);
+        due("38: bounds", x.mean(-99, 3, 1), 1);
+        due("38: bounds", x.mean(99, 3, 1), 1);
+        PillarDesk five = Kit.lines("flow 0 plus 5");
+        due("37: not below", five.chance(0, 5, 0, 0), 0);
+        due("37: below", five.chance(0, 6, 0, 0), 1);
         due("38: what ahead of b", x.mean(100, 0, 2), Kit.FAR - 2);
         due("38: b", x.mean(100, 0, 0), Kit.FAR - 3);
         due("38: b", x.mean(-100, 0, 0), Kit.FAR - 3);
@@ -868,6 +929,15 @@ public final class PromiseTest {
         due("41: no place", x.lists(2), 0);
         due("41: tray", x.lists(4), -2);
         due("41: tray", x.lists(-1), -2);
+        Kit.tray(x, 0, 1, 2, -1);
+        x.lists(0);
+        due("41: the place behind stays", x.shifts(0), -3);
+        Kit.tray(x, 0, -1, -1);
+        x.lists(0);
+        due("41: both places", x.shifts(0), 0);
+        x.numbers(0, 1, 1);
+        x.lists(0);
+        due("41: 1000000000 is -13824 in 16 bits", x.shifts(0), -3);
         // What came into a tray is seen by the deeds and by what is told.
         PillarDesk y = Kit.lines("deposit 91 rate 0");
         y.numbers(0, 0, 2);
@@ -933,6 +1003,10 @@ public final class PromiseTest {
         due("44: shift now", x.count(5), 5);
         due("44: rates now", x.count(6), 73);
         due("44: can be undone", x.count(7), 2);
+        Kit.tell(x, Kit.HEAD + "deposit 9 rate 7;");
+        due("44: of this desk alone", x.count(6), 7);
+        due("27: of this desk alone", x.worth(), 0);
+        due("32: of this desk alone", x.hang(0), 0);
         due("44: others", x.count(10), -1);
         due("44: others", x.count(-1), -1);
     }
