@@ -223,6 +223,11 @@ public final class PromiseTest {
         due("opens: others", x.open(0), 0);
         due("opens: far", x.open(9735), 0);
         due("opens: far week", x.open(6 + 7 * 1000), 1);
+        String open = "0=1 or 1=1 and 1<1+1*";
+        due("opens: six deep, and much waits at each", Kit.lines("opens : " + (open + "if ").repeat(6) + open + "1"
+                + " then 1 else 0 end".repeat(6)).open(5), 1);
+        due("opens: six deep, and it doesn't hold", Kit.lines("opens : " + (open + "if ").repeat(6) + open + "0"
+                + " then 1 else 0 end".repeat(6)).open(0), 0);
         due("shift counts without a law", Kit.told("desk first 0 curve 0 shift 9;deposit 5 rate 995;").input(0, 6), 999);
     }
 
