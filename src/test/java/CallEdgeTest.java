@@ -34,6 +34,7 @@ public final class CallEdgeTest {
         soundFallsMoves();
         moveBumpedMover();
         breaks();
+        breaksByOne();
         hangFlatLeft();
         shifts();
         ask();
@@ -47,6 +48,7 @@ public final class CallEdgeTest {
         restore();
         count();
         asIfDone();
+        theLastCall();
         Kit.end();
     }
 
@@ -105,8 +107,7 @@ public final class CallEdgeTest {
         due("3: read", Kit.tell(x, Kit.HEAD + "deposit 5 rate 7;"), 2);
         due("3: nothing can be undone", x.undo(1), -3);
         due("3: nothing of the desk ahead", x.count(1) + x.count(2), 0);
-        due("3: its law is gone", x.input(0, 6), 7);
-        due("3: its opens are gone", x.open(9), 1);
+        due("3: its holiday is gone", x.open(9), 1);
         due("3: trays stay", x.judge(0, 0), 2);
         due("3: images stay", x.restore(0), 0);
         PillarDesk all = new PillarDesk();
@@ -523,6 +524,43 @@ public final class CallEdgeTest {
         due("31: 0 itself", Kit.lines("deposit 900 rate 0", "flow 900 plus 10", "flow 0 minus 9", "rates : told", "opens : 1 = 1").breaks(0), 445);
     }
 
+    /** Day 2 is worth as much more than day 1 as the rate tells, day 278 557 more than day 279: 557 less rate times amount. */
+    private static PillarDesk fine(int rate, int amount) {
+        return Kit.lines("deposit 1 rate " + rate, "deposit 278 rate 0", "deposit 555 rate 1", "opens : 1 = 1", "flow 278 plus 1", "flow 279 minus 1",
+                "flow 1 plus " + amount, "flow 2 minus " + amount);
+    }
+
+    /** "is 0 or of the other sign than now", to the last unit */
+    private static void breaksByOne() {
+        PillarDesk one = fine(1, 4);
+        due("31: now", one.worth(), 553);
+        due("31: 1 is of the same sign", one.bumped(0, 138), 1);
+        due("31: -3 isn't", one.bumped(0, 139), -3);
+        due("31: so the first that isn't", one.breaks(0), 139);
+        PillarDesk zero = fine(0, 557);
+        due("31: 0", zero.bumped(0, 1), 0);
+        due("31: the first that is 0", zero.breaks(0), 1);
+        PillarDesk less = fine(1, 6);
+        due("31: 5", less.bumped(0, 91), 5);
+        due("31: -1", less.bumped(0, 92), -1);
+        due("31: the first that is -1", less.breaks(0), 92);
+        PillarDesk least = fine(139, 4);
+        due("31: a WORTH of 1 now", least.worth(), 1);
+        due("31: of the other sign by the next", least.breaks(0), 1);
+        PillarDesk below = fine(93, 6);
+        due("31: a WORTH of -1 now", below.worth(), -1);
+        due("31: -7 by the next", below.bumped(0, 1), -7);
+        due("31: never 0 nor above", below.breaks(0), -1);
+        for (int k = 0; k < 4; k++) {
+            below.amount(k, (int) -below.flow(k, 1));
+            least.amount(k, (int) -least.flow(k, 1));
+        }
+        due("31: a WORTH of 1, never below", below.worth(), 1);
+        due("31: a WORTH of 1, never below", below.breaks(0), -1);
+        due("31: a WORTH of -1, above by the next", least.worth(), -1);
+        due("31: a WORTH of -1, above by the next", least.breaks(0), 1);
+    }
+
     private static void hangFlatLeft() {
         PillarDesk x = Twin.full();
         for (int k = 1; k < 4; k++) {
@@ -596,6 +634,21 @@ public final class CallEdgeTest {
         due("36: factors that differ", by100.factor(60) == early ? 1 : 0, 0);
         due("36: but not by 100", by100.factor(60) / 100, early / 100);
         due("36: by 100", by100.ask(1), 30);
+        due("36: 999535085 and 999535087 are the same by 100, not by 99 or 101", partedBy(851, 28, 999_535_085, 999_535_087), 30);
+        due("36: 999966699 and 999966700 aren't", partedBy(229, 2, 999_966_699, 999_966_700), 60);
+        PillarDesk nine = toldOf(Kit.lines("deposit 91 rate 5", "rates : told + if shift = 4 then 1 else 0 end"), 10_000_000L);
+        due("36: nine of ten are less than ten", nine.ask(1), 91);
+    }
+
+    /** As above; the shifts from 2 on are parted at day 60 by these factors alone. */
+    private static int partedBy(int rate, int swapRate, int early, int late) {
+        PillarDesk x = toldOf(Kit.lines("deposit 30 rate " + rate, "swap 60 every 30 rate " + swapRate, "opens : 1 = 1",
+                "rates : told + if input = 0 then if shift < 6 then 0 else 1 end else if shift < 2 then 1 else 0 end end"), 10_000_000L);
+        x.shift(5);
+        due("36: a factor", x.factor(60), early);
+        x.shift(6);
+        due("36: the other", x.factor(60), late);
+        return x.ask(1);
     }
 
     private static PillarDesk toldOf(PillarDesk x, long number) {
@@ -780,5 +833,23 @@ public final class CallEdgeTest {
         Twin.unchanged("37: chance", 1, Twin::full, x -> x.chance(99, 1_000_000, 3, 0));
         Twin.unchanged("38: mean", 1, Twin::full, x -> x.mean(99, 0, 1));
         Twin.unchanged("42: image", 0, Twin::full, x -> x.count(7) - 3);
+    }
+
+    /** "An object is used for at most 512 calls after it has been made": the 512th still answers as is due. */
+    private static void theLastCall() {
+        PillarDesk x = new PillarDesk();
+        String text = Kit.HEAD + "deposit 91 rate 400;flow 91 plus 3;";
+        Kit.feed(x, text);
+        x.desk(text.length());
+        int calls = (text.length() + 19) / 20 + 1;
+        for (; calls + 2 <= 510; calls += 2) {
+            x.bump(0, 1);
+            x.bump(0, -1);
+        }
+        for (; calls < 510; calls++) {
+            x.shift(0);
+        }
+        due("the 511th call", x.worth(), 3 * (UNIT * 3_600_000 / (3_600_000 + 400 * 91)));
+        due("the 512th call", x.undo(10), 0);
     }
 }

@@ -19,6 +19,8 @@ public final class TermsEdgeTest {
         unmet();
         factorAtADay();
         periods();
+        theMostPeriods();
+        notOfEach();
         whyNot();
         deedsOfShifts();
         deedsOfBumps();
@@ -190,6 +192,17 @@ public final class TermsEdgeTest {
         due("a swap just met", Kit.lines("swap 800 every 999 rate 500", ALWAYS).pillar(1, 1), 900_000_000);
         due("a deposit of 91 days", Kit.lines("deposit 91 rate 400").pillar(1, 1), 989_990_100);
         due("a swap, the pay rounded down", Kit.lines("swap 91 every 999 rate 400").pillar(1, 1), 989_990_101);
+        // BASE times the factor at the start is just one short of the next f.
+        PillarDesk shortOf = Kit.lines("deposit 57 rate 547", "forward 57 698 rate 343", ALWAYS);
+        due("a forward, the factor at its start", shortOf.pillar(1, 1), 991_413_532);
+        due("a forward, one short of the next", 934_349_927L * (BASE + 343 * 641) - BASE * 991_413_532L, 1);
+        due("a forward, one short", shortOf.pillar(2, 1), 934_349_926);
+        // f and the pay, if it weren't rounded, are just one BASEth short of UNIT + 1.
+        PillarDesk most = Kit.lines("deposit 239 rate 511", "swap 478 every 239 rate 911", ALWAYS);
+        long pay = 911L * 239;
+        due("a swap, the most that is rounded down", 887_809_229L * (BASE + pay) + pay * most.pillar(1, 1), (UNIT + 1) * BASE - 1);
+        due("a swap, just met", most.pillar(2, 1), 887_809_229);
+        due("a swap, one BASEth too much", Kit.lines("swap 900 every 999 rate 4", ALWAYS).pillar(1, 1), 999_000_999);
         for (int curve = 0; curve <= 1; curve++) {
             greatestForward("desk first 0 curve " + curve + " shift 0;deposit 30 rate 300;forward 77 211 rate 987;", 77, 211, 987);
             greatestForward("desk first 0 curve " + curve + " shift 0;deposit 30 rate 300;forward 210 211 rate 1;opens : 1 = 1;", 210, 211, 1);
@@ -317,6 +330,38 @@ public final class TermsEdgeTest {
 
     // ---- deeds
 
+    /** "8 at most", "every .. 30 to 999", "1 to 999": the last input with the most periods there can be */
+    private static void theMostPeriods() {
+        PillarDesk x = Kit.told(Kit.HEAD + "swap 999 every 30 rate 999;".repeat(7) + "swap 998 every 30 rate 1;flow 500 plus 9;" + ALWAYS + ";");
+        due("the last end of the first", x.period(0, 33), 999);
+        due("no 35th", x.period(0, 34), -1);
+        due("the first end of the last input", x.period(7, 0), 8);
+        due("its last end", x.period(7, 33), 998);
+        due("no 35th of the last input", x.period(7, 34), -1);
+        due("two pillars behind day 0", x.pillars(), 3);
+        due("the earlier one is of the last input", x.pillar(1, 2), 7);
+        due("all that hangs on it is taken", Math.abs(x.left(1)) <= 2_000_000_000L ? 1 : 0, 1);
+        due("all that hangs on the later one is taken", Math.abs(x.left(2)) <= 2_500_000_000L ? 1 : 0, 1);
+    }
+
+    /** "not UNIT", of each that a UNIT can be */
+    private static void notOfEach() {
+        String[] hold = {"1 = 1", "1 < 2", "2 > 1", "[1 = 1 and 2 = 2]", "[1 = 1 or 1 = 2]", "[1 = 2 or 1 = 1]", "not 1 = 2", "not not 1 < 2",
+            "if 1 < 2 then 3 else 4 end = 3"};
+        for (String unit : hold) {
+            due(unit, Kit.lines("opens : " + unit).open(5), 1);
+            due("not " + unit, Kit.lines("opens : not " + unit).open(5), 0);
+            due("not not " + unit, Kit.lines("opens : not not " + unit).open(5), 1);
+            due("if not " + unit, counting("if not " + unit + " then 5 else 6 end"), 6);
+        }
+        String[] fail = {"1 = 2", "2 < 2", "3 < 2", "2 > 2", "1 > 2", "[1 = 1 and 1 = 2]", "[1 = 2 and 1 = 1]", "[1 = 2 or 1 = 2]", "not 1 = 1"};
+        for (String unit : fail) {
+            due(unit, Kit.lines("opens : " + unit).open(5), 0);
+            due("not " + unit, Kit.lines("opens : not " + unit).open(5), 1);
+            due("if " + unit, counting("if " + unit + " then 5 else 6 end"), 6);
+        }
+    }
+
     /** "Why not: 1 no such INPUT, flow, SHIFT, AMOUNT (-999 to 999), BUMP (-99 to 99). 2 the RATE would be below 0 or above 999." */
     private static void whyNot() {
         PillarDesk x = Kit.lines("deposit 5 rate 98", "deposit 6 rate 900", "deposit 7 rate 99", "flow 1 plus 1");
@@ -426,7 +471,7 @@ public final class TermsEdgeTest {
     /** "others: 1" */
     private static void otherDeeds() {
         PillarDesk x = eightAndTen();
-        long[] others = {0, 1, -1, -10, -1000, -10000, 100, 9998, 30001, 65546, 4294967306L, 4294968296L, -4294967286L, Long.MIN_VALUE, Long.MAX_VALUE};
+        long[] others = {0, 1, -1, -10, -1000, -10000, 100, 9998, 30001, 65546, 4294967306L, 4294968296L, 4294978295L, -4294956297L, -4294967286L, Long.MIN_VALUE, Long.MAX_VALUE};
         for (long v : others) {
             deed(x, v, 1);
         }
