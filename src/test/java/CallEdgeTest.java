@@ -426,7 +426,11 @@ public final class CallEdgeTest {
         PillarDesk full = Twin.full();
         due("23: the last input", full.implied(3), impliedByWords(full, 3));
         PillarDesk one = Kit.lines("swap 800 every 999 rate 500", "opens : 1 = 1");
-        due("23: a swap of one period", one.implied(0), 500);
+        due("23: a swap of one period, no rest", one.implied(0), 500);
+        PillarDesk near = Kit.lines("swap 272 every 999 rate 201", "opens : 1 = 1");
+        due("23: a swap, 96 short of 201 times what divides", (UNIT - near.factor(272)) * 3_600_000 - 201 * (272L * near.factor(272)), -96);
+        due("23: rounded down", near.implied(0), 200);
+        due("22: rounded down", near.forward(0, 272), 200);
     }
 
     /** "UNIT less the FACTOR at its end, times BASE, divided by the days of its periods times the FACTORS at their ends, added" */

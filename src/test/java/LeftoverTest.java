@@ -26,6 +26,9 @@ public final class LeftoverTest {
         everyIsAskedOfADeposit();
         faultsLeaveNoTrace();
         traysRenewed();
+        fewerPillars();
+        shorterLaw();
+        fewerPeriodsBetween();
         Kit.end();
     }
 
@@ -223,5 +226,73 @@ public final class LeftoverTest {
             x.write(0, 0, 15);
             due("there is no next", x.judge(0, 0), -1);
         }
+    }
+
+    private static final String NINE = "deposit 7 rate 1;deposit 14 rate 2;deposit 21 rate 3;deposit 28 rate 4;deposit 35 rate 5;deposit 42 rate 6;"
+            + "deposit 49 rate 7;deposit 56 rate 8;";
+
+    /** A desk with the most pillars there can be, then one with fewer: none of the earlier ones is seen. */
+    private static void fewerPillars() {
+        PillarDesk x = Kit.told(Kit.HEAD + NINE);
+        due("nine pillars", x.pillars(), 9);
+        due("nine pillars are sound", x.sound(), 1);
+        Kit.tray(x, 0, 10_000_000L);
+        due("nine pillars: the first that tells all", x.ask(0), 7);
+        due("nine pillars listed", listed(x), 9);
+        // The factor of the earlier pillar at day 21 was above that of the later one at day 14.
+        Kit.tell(x, Kit.HEAD + "deposit 7 rate 900;deposit 14 rate 900;rates : 900;");
+        due("three pillars", x.pillars(), 3);
+        due("three pillars are sound", x.sound(), 1);
+        due("none of three tells anything: day 0", x.ask(0), 0);
+        due("three pillars listed", listed(x), 3);
+        due("moves none behind the last", x.moves(1), 0b100);
+        Kit.tell(x, Kit.HEAD);
+        due("day 0 alone is sound", x.sound(), 1);
+        due("day 0 alone", x.ask(0), 0);
+        due("day 0 alone listed", listed(x), 1);
+    }
+
+    private static int listed(PillarDesk x) {
+        x.numbers(1, 3, 40);
+        return x.lists(1);
+    }
+
+    /** A law that ends where an earlier one went on. */
+    private static void shorterLaw() {
+        PillarDesk x = Kit.lines("opens : not 1 = 1");
+        due("not", x.open(0), 0);
+        Kit.tell(x, Kit.HEAD + "opens : 1 = 1;");
+        due("without not", x.open(0), 1);
+        Kit.tell(x, Kit.HEAD + "deposit 5 rate 70;rates : if 1 = 2 then 3 else 4 end;");
+        due("if", x.input(0, 6), 4);
+        Kit.tell(x, Kit.HEAD + "deposit 5 rate 70;rates : 1;");
+        due("without if", x.input(0, 6), 1);
+    }
+
+    /** Many periods end between the first two pillars, then fewer between the next two: each is met by its own. */
+    private static void fewerPeriodsBetween() {
+        PillarDesk x = Kit.lines("swap 364 every 30 rate 600", "swap 728 every 91 rate 500", "swap 910 every 130 rate 400", "opens : 1 = 1");
+        int[] rates = {600, 500, 400};
+        for (int i = 0; i < 3; i++) {
+            long f = x.pillar(i + 1, 1);
+            due("swap " + i + ": the greatest holds", swapCost(x, i, rates[i], f) <= UNIT ? 1 : 0, 1);
+            due("swap " + i + ": one more doesn't", swapCost(x, i, rates[i], f + 1) <= UNIT ? 1 : 0, 0);
+        }
+    }
+
+    /** "f and the sum, divided by BASE, rounded down, of the DUE of each of its periods times the FACTOR at its end" */
+    private static long swapCost(PillarDesk x, int i, long rate, long f) {
+        long a = x.pillar(i, 0);
+        long b = x.pillar(i + 1, 0);
+        long early = x.pillar(i, 1);
+        long sum = 0;
+        int from = 0;
+        for (int k = 0; x.period(i, k) != -1; k++) {
+            int day = x.period(i, k);
+            long factor = day <= a ? x.factor(day) : early + Math.floorDiv((f - early) * (day - a), b - a);
+            sum += rate * (day - from) * factor;
+            from = day;
+        }
+        return f + Math.floorDiv(sum, BASE);
     }
 }

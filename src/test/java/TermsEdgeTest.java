@@ -8,6 +8,7 @@ public final class TermsEdgeTest {
 
     public static void main(String[] args) {
         openWithoutLaw();
+        everyDay();
         openByLaw();
         putOff();
         wordsOfOpens();
@@ -35,6 +36,7 @@ public final class TermsEdgeTest {
         told();
         lots();
         weeks();
+        traysMissingAtFirst();
         traysOfSorts();
         images();
         Kit.end();
@@ -55,6 +57,18 @@ public final class TermsEdgeTest {
             }
             due("the last holiday", x.open(999), 0);
             due("behind the last holiday", x.open(1000), (first + 1000) % 7 <= 4 ? 1 : 0);
+        }
+    }
+
+    /** "Whether a DAY (0 to 9999) is OPEN": each of them, asked twice, with a law and without */
+    private static void everyDay() {
+        PillarDesk plain = Kit.told("desk first 4 curve 0 shift 0;holiday 500;");
+        PillarDesk law = Kit.lines("opens : week = 2 or date > 999 * 9");
+        for (int turn = 0; turn < 2; turn++) {
+            for (int d = 0; d <= 9999; d++) {
+                due("open(" + d + ")", plain.open(d), (4 + d) % 7 < 5 && d != 500 ? 1 : 0);
+                due("open(" + d + ") by a law", law.open(d), d % 7 == 2 || d > 8991 ? 1 : 0);
+            }
         }
     }
 
@@ -688,6 +702,26 @@ public final class TermsEdgeTest {
     }
 
     // ---- trays, images
+
+    /** "TRAYS 0 to 3 are MISSING at first" */
+    private static void traysMissingAtFirst() {
+        PillarDesk x = new PillarDesk();
+        for (int t = 0; t < 4; t++) {
+            due("judge(" + t + ")", x.judge(t, 0), -6);
+            due("perform(" + t + ")", x.perform(t), -6);
+            due("shifts(" + t + ")", x.shifts(t), -6);
+            due("ask(" + t + ")", x.ask(t), -6);
+            due("write(" + t + ")", x.write(t, 0, 1), -6);
+            due("lists(" + t + ")", x.lists(t), -6);
+            due("a refused one is missing still", x.numbers(t, 0, 41), -3);
+            due("it is missing still", x.perform(t), -6);
+        }
+        for (int t = 0; t < 4; t++) {
+            due("of no numbers", x.numbers(t, t, 0), 0);
+            due("it isn't missing any more", x.perform(t), 0);
+            due("the next one is", x.perform(t + 1), t < 3 ? -6 : -2);
+        }
+    }
 
     /** "0 to 40 numbers of 8 bits (sort 0), 16 (1), 32 (2), 64 (3)" */
     private static void traysOfSorts() {
